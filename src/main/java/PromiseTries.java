@@ -47,8 +47,8 @@ public final class PromiseTries {
 
     private static final int FAULT_BASE = -10;
 
-    private final Tape tape = new Tape();
-    private final Reader reader = new Reader(tape);
+    private final Reader reader = new Reader();
+    private final Tape tape = reader.tape;
     private final Watch[] watches = new Watch[MOST_PROMISES];
     private final Trace trace = new Trace();
     private final Trace[] images = new Trace[IMAGES];
@@ -101,9 +101,9 @@ public final class PromiseTries {
     public int text() {
         int found = reader.readAll(spare);
         tape.length = 0;
-        latestFault = reader.tokens.firstFault;
+        latestFault = tape.firstFault;
         if (found < 0) {
-            return FAULT_BASE - reader.tokens.faultPlace;
+            return FAULT_BASE - tape.faultPlace;
         }
         Pledge[] before = told;
         told = spare;
@@ -181,7 +181,7 @@ public final class PromiseTries {
             return BAD;
         }
         Sequence sequence = told[p].sideOf(side);
-        return (sequence.walk(trace, i, j + 1) & sequence.ends) != 0 ? 1 : 0;
+        return sequence.hasEnded(sequence.walk(trace, i, j + 1)) ? 1 : 0;
     }
 
     public int might(int p, int side, int i) {
@@ -468,11 +468,6 @@ public final class PromiseTries {
         return sum;
     }
 
-    private static final class Tape {
-        private final byte[] bytes = new byte[MOST_BYTES];
-        private int length;
-    }
-
     private static final class Trace {
         private final int[] ticks = new int[MOST_TICKS];
         private int length;
@@ -560,10 +555,6 @@ public final class PromiseTries {
         private boolean tooLong;
 
         void clear() {
-            follows[0] = 0;
-            ends = 0;
-            useful = 0;
-            onward = 0;
             conditions = 0;
             positions = 0;
             tooLong = false;
@@ -624,6 +615,8 @@ public final class PromiseTries {
         // positions tells at once whether anything to come can still match. Positions are followed by later ones
         // only, so that one pass from the last to the first is enough.
         void findUseful() {
+            useful = 0;
+            onward = 0;
             long fulfillable = START;
             for (int e = 0; e < conditions; e++) {
                 if (howManyFulfil(truths, e) > 0) {
@@ -842,25 +835,22 @@ public final class PromiseTries {
         }
     }
 
-    /** The tape token by token, with the first fault that was met. */
-    private static final class Tokens {
+    /** The tape, which is read token by token, with the first fault that was met. */
+    private static final class Tape {
         // The other kinds of tokens are the signs themselves.
         private static final int END = 0;
         private static final int WIRE = 1;
         private static final int NUMBER = 2;
         private static final int NO_TOKEN = 3;
 
-        private final Tape tape;
+        private final byte[] bytes = new byte[MOST_BYTES];
+        private int length;
         private int at;
         private int kind;
         private int value;
         private int place;
         private int firstFault;
         private int faultPlace;
-
-        Tokens(Tape tape) {
-            this.tape = tape;
-        }
 
         void begin() {
             at = 0;
@@ -879,15 +869,15 @@ public final class PromiseTries {
         }
 
         void advance() {
-            while (at < tape.length && tape.bytes[at] == ' ') {
+            while (at < length && bytes[at] == ' ') {
                 at++;
             }
             place = at;
-            if (at >= tape.length) {
+            if (at >= length) {
                 kind = END;
                 return;
             }
-            int c = tape.bytes[at];
+            int c = bytes[at];
             at++;
             if (c >= 'a' && c <= 'h') {
                 kind = WIRE;
@@ -906,9 +896,9 @@ public final class PromiseTries {
             kind = NUMBER;
             value = firstFigure - '0';
             int figures = 1;
-            while (at < tape.length && isFigure(tape.bytes[at])) {
+            while (at < length && isFigure(bytes[at])) {
                 if (figures == 1) {
-                    value = value * 10 + tape.bytes[at] - '0';
+                    value = value * 10 + bytes[at] - '0';
                 }
                 figures++;
                 at++;
@@ -1020,6 +1010,7 @@ public final class PromiseTries {
         private final int[] fewest = new int[STACK];
         private final int[] most = new int[STACK];
         private int depth;
+        // A sequence of its own until the first one is begun, so that there always is one.
         private Sequence made = new Sequence();
 
         void begin(Sequence toMake) {
@@ -1083,21 +1074,21 @@ public final class PromiseTries {
             most[top] = Math.min(CAP, most[top] * n);
         }
 
-        // m to n times is: n times one behind another, all behind the m-th of which may be none.
+        // The copies that match any tick can always be the first ones: all begin with the first copy, and may end with
+        // the m-th or a later one; with any, if the others can match no tick.
         private void chainCopies(int top, int width, int m, int n) {
             long begin = begins[top];
             long end = ends[top];
-            boolean emptyPart = fewest[top] == 0;
-            boolean emptySoFar = emptyPart || m == 0;
-            for (int k = 1; k < n; k++) {
+            int least = fewest[top] == 0 ? 1 : Math.max(1, m);
+            ends[top] = 0;
+            for (int k = 0; k < n; k++) {
                 int shift = k * width;
-                made.link(ends[top], begin << shift);
-                if (emptySoFar) {
-                    begins[top] |= begin << shift;
+                if (k > 0) {
+                    made.link(end << (shift - width), begin << shift);
                 }
-                boolean mayBeNone = emptyPart || k >= m;
-                ends[top] = mayBeNone ? ends[top] | end << shift : end << shift;
-                emptySoFar = emptySoFar && mayBeNone;
+                if (k >= least - 1) {
+                    ends[top] |= end << shift;
+                }
             }
         }
 
@@ -1117,28 +1108,24 @@ public final class PromiseTries {
 
     /** Reads a text by its grammar; each method begins at the token that its part has to begin with. */
     private static final class Reader {
-        private final Tokens tokens;
+        private final Tape tape = new Tape();
         private final TruthStack stack = new TruthStack();
         private final Builder builder = new Builder();
 
-        Reader(Tape tape) {
-            tokens = new Tokens(tape);
-        }
-
         /** How many promises were read; below 0 by a fault. */
         int readAll(Pledge[] into) {
-            tokens.begin();
+            tape.begin();
             stack.clear();
             for (int p = 0; p <= MOST_PROMISES; p++) {
-                if (tokens.kind == Tokens.END) {
+                if (tape.kind == Tape.END) {
                     return p;
                 }
-                if (!tokens.beginsSequence()) {
-                    tokens.refuse(CANNOT_STAND);
+                if (!tape.beginsSequence()) {
+                    tape.refuse(CANNOT_STAND);
                     return -1;
                 }
                 if (p >= into.length) {
-                    tokens.refuse(TOO_MANY);
+                    tape.refuse(TOO_MANY);
                     return -1;
                 }
                 if (!readPromise(into[p])) {
@@ -1154,11 +1141,11 @@ public final class PromiseTries {
                 return false;
             }
             builder.finish();
-            if (tokens.kind != '=' && tokens.kind != '>') {
-                return tokens.refuse(CANNOT_STAND);
+            if (tape.kind != '=' && tape.kind != '>') {
+                return tape.refuse(CANNOT_STAND);
             }
-            pledge.kind = tokens.kind == '>' ? NEXT : HERE;
-            tokens.advance();
+            pledge.kind = tape.kind == '>' ? NEXT : HERE;
+            tape.advance();
             builder.begin(pledge.thenSide);
             if (!readChoice(0)) {
                 return false;
@@ -1167,25 +1154,25 @@ public final class PromiseTries {
             if (!readOff(pledge)) {
                 return false;
             }
-            if (tokens.kind != ';') {
-                return tokens.refuse(CANNOT_STAND);
+            if (tape.kind != ';') {
+                return tape.refuse(CANNOT_STAND);
             }
             if (pledge.ifSide.fewest == 0 || pledge.thenSide.fewest == 0) {
-                return tokens.refuse(MATCHES_NONE);
+                return tape.refuse(MATCHES_NONE);
             }
             if (pledge.ifSide.tooLong || pledge.thenSide.tooLong) {
-                return tokens.refuse(TOO_LONG);
+                return tape.refuse(TOO_LONG);
             }
-            tokens.advance();
+            tape.advance();
             return true;
         }
 
         private boolean readOff(Pledge pledge) {
-            pledge.hasOff = tokens.kind == '~';
+            pledge.hasOff = tape.kind == '~';
             if (!pledge.hasOff) {
                 return true;
             }
-            tokens.advance();
+            tape.advance();
             if (!readAnyOf(0)) {
                 return false;
             }
@@ -1197,8 +1184,8 @@ public final class PromiseTries {
             if (!readChain(nested)) {
                 return false;
             }
-            for (int i = 0; i < MOST_BYTES && tokens.kind == '/'; i++) {
-                tokens.advance();
+            for (int i = 0; i < MOST_BYTES && tape.kind == '/'; i++) {
+                tape.advance();
                 if (!readChain(nested)) {
                     return false;
                 }
@@ -1211,8 +1198,8 @@ public final class PromiseTries {
             if (!readRepeated(nested)) {
                 return false;
             }
-            for (int i = 0; i < MOST_BYTES && tokens.kind == ','; i++) {
-                tokens.advance();
+            for (int i = 0; i < MOST_BYTES && tape.kind == ','; i++) {
+                tape.advance();
                 if (!readRepeated(nested)) {
                     return false;
                 }
@@ -1225,15 +1212,15 @@ public final class PromiseTries {
             if (!readPart(nested)) {
                 return false;
             }
-            if (tokens.kind != '*') {
+            if (tape.kind != '*') {
                 return true;
             }
-            tokens.advance();
-            int m = tokens.value;
+            tape.advance();
+            int m = tape.value;
             if (!readNumber(0)) {
                 return false;
             }
-            int n = tokens.value;
+            int n = tape.value;
             if (!readNumber(Math.max(1, m))) {
                 return false;
             }
@@ -1242,18 +1229,18 @@ public final class PromiseTries {
         }
 
         private boolean readNumber(int least) {
-            if (tokens.kind != Tokens.NUMBER) {
-                return tokens.refuse(CANNOT_STAND);
+            if (tape.kind != Tape.NUMBER) {
+                return tape.refuse(CANNOT_STAND);
             }
-            if (tokens.value < least || tokens.value > MOST_TIMES) {
-                return tokens.refuse(OUT_OF_BOUNDS);
+            if (tape.value < least || tape.value > MOST_TIMES) {
+                return tape.refuse(OUT_OF_BOUNDS);
             }
-            tokens.advance();
+            tape.advance();
             return true;
         }
 
         private boolean readPart(int nested) {
-            if (tokens.kind != '{') {
+            if (tape.kind != '{') {
                 if (!readCondition(nested)) {
                     return false;
                 }
@@ -1261,24 +1248,24 @@ public final class PromiseTries {
                 return true;
             }
             if (nested >= MOST_NESTED) {
-                return tokens.refuse(TOO_MANY);
+                return tape.refuse(TOO_MANY);
             }
-            tokens.advance();
+            tape.advance();
             if (!readChoice(nested + 1)) {
                 return false;
             }
-            if (tokens.kind != '}') {
-                return tokens.refuse(CANNOT_STAND);
+            if (tape.kind != '}') {
+                return tape.refuse(CANNOT_STAND);
             }
-            tokens.advance();
+            tape.advance();
             return true;
         }
 
         private boolean readCondition(int nested) {
             boolean negated = false;
-            for (int i = 0; i < MOST_BYTES && tokens.kind == '!'; i++) {
+            for (int i = 0; i < MOST_BYTES && tape.kind == '!'; i++) {
                 negated = !negated;
-                tokens.advance();
+                tape.advance();
             }
             if (!readPlain(nested)) {
                 return false;
@@ -1290,25 +1277,25 @@ public final class PromiseTries {
         }
 
         private boolean readPlain(int nested) {
-            if (tokens.kind == Tokens.WIRE) {
-                stack.pushWire(tokens.value);
-                tokens.advance();
+            if (tape.kind == Tape.WIRE) {
+                stack.pushWire(tape.value);
+                tape.advance();
                 return true;
             }
-            if (tokens.kind != '(') {
-                return tokens.refuse(CANNOT_STAND);
+            if (tape.kind != '(') {
+                return tape.refuse(CANNOT_STAND);
             }
             if (nested >= MOST_NESTED) {
-                return tokens.refuse(TOO_MANY);
+                return tape.refuse(TOO_MANY);
             }
-            tokens.advance();
+            tape.advance();
             if (!readAnyOf(nested + 1)) {
                 return false;
             }
-            if (tokens.kind != ')') {
-                return tokens.refuse(CANNOT_STAND);
+            if (tape.kind != ')') {
+                return tape.refuse(CANNOT_STAND);
             }
-            tokens.advance();
+            tape.advance();
             return true;
         }
 
@@ -1316,8 +1303,8 @@ public final class PromiseTries {
             if (!readAllOf(nested)) {
                 return false;
             }
-            for (int i = 0; i < MOST_BYTES && tokens.kind == '|'; i++) {
-                tokens.advance();
+            for (int i = 0; i < MOST_BYTES && tape.kind == '|'; i++) {
+                tape.advance();
                 if (!readAllOf(nested)) {
                     return false;
                 }
@@ -1330,8 +1317,8 @@ public final class PromiseTries {
             if (!readCondition(nested)) {
                 return false;
             }
-            for (int i = 0; i < MOST_BYTES && tokens.kind == '&'; i++) {
-                tokens.advance();
+            for (int i = 0; i < MOST_BYTES && tape.kind == '&'; i++) {
+                tape.advance();
                 if (!readCondition(nested)) {
                     return false;
                 }

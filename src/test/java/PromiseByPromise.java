@@ -116,17 +116,23 @@ public final class PromiseByPromise {
     due("4 the tape is empty by a fault", x.count(1), 0);
     due("4 what was told stays", x.promise(0, 8), 9);
     due("4 images stay by a fault", x.count(0), 2);
-    due("4 taken", tell(x, "a=b;c=d;"), 2);
+    due("4 failed by the old promise", x.verdict(0, 0), 2);
+    due("4 taken", tell(x, "a=a;c=d;"), 2);
     due("4 the tape is empty", x.count(1), 0);
     due("4 the trace stays", x.rule(1), 2);
     due("4 its bits", x.bits(1), 2);
     due("4 sheets stay", x.count(2), 7);
     due("4 images are gone", x.count(0), 0);
     due("4 image 0 is gone", x.back(0), -2);
-    due("4 tries are by the new promises", x.verdict(0, 0), 2);
+    due("4 tries are by the new promises", x.verdict(0, 0), 1);
     due("4 of the second", x.verdict(1, 0), 3);
     due("4 an empty text tells none", x.text(), 0);
     due("4 none", x.rule(0), 0);
+    due("4 told once more", tell(x, "a*2 3=b,c*0 1/d;"), 1);
+    due("4 and again", tell(x, "{a,b}*1 2/c>{a/b,c*0 1}*2 2~a;a/b=c/d/e;"), 2);
+    int[][] all = {{1, 1, 3, 3, 5, 6, 1, 2, 4, 4}, {0, 0, 2, 3, 2, 3, 1, 1, 1, 1}};
+    for (int p = 0; p < 2; p++)
+      for (int what = 0; what < 10; what++) due("4 promise " + p + ", " + what, x.promise(p, what), all[p][what]);
     due("4 200 bytes", tell(new PromiseTries(), times("!", 196) + "a=b;"), 1);
   }
 
@@ -308,6 +314,17 @@ public final class PromiseByPromise {
     due("10 far j below", x.matches(0, 0, 0, LOW), -1);
     for (int side : new int[] {-1, 2, LOW, HIGH}) due("10 side " + side, x.matches(0, side, 0, 0), -1);
     for (int p : new int[] {-1, 1, LOW, HIGH}) due("10 p " + p, x.matches(p, 0, 0, 0), -1);
+    PromiseTries z = told("{a*0 1,b*0 1}*2 3,c={a/b,c}*0 2,d;", 1, 1, 1, 4, 2, 4, 2, 4, 8);
+    int[] begins = {0, 1, 2, 3, 4, 5}, ends = {3, 3, 3, 3, 5, 5};
+    for (int k = 0; k < 6; k++) due("10 parts that may be none, from " + k, z.matches(0, 0, begins[k], ends[k]), 1);
+    z.put(4, 1);
+    due("10 b, then c", z.matches(0, 1, 6, 8), 1);
+    due("10 twice, and d", z.matches(0, 1, 4, 8), 0);
+    z.put(5, 2);
+    z.put(6, 4);
+    z.put(7, 8);
+    due("10 a, then b, c, and d", z.matches(0, 1, 4, 7), 1);
+    due("10 d alone", z.matches(0, 1, 8, 8), 1);
     PromiseTries y = told(times("a,", 39) + "a=a*9 9,a*1 9,{a*2 2}*1 9;");
     for (int i = 0; i < 48; i++) y.tick(1);
     due("10 40 long", y.matches(0, 0, 8, 47), 1);
