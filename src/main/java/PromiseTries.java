@@ -18,8 +18,9 @@ public final class PromiseTries {
     private static final int WORDS = 4;
     private static final int WORD_BITS = 64;
 
-    // Each of the nine levels (the outermost, and eight nested) holds a left choice, a left part and the part being read.
-    private static final int STACK = 3 * (MOST_NESTED + 1);
+    // Each of the nine levels (the outermost, and eight nested) holds a left choice and a left part; the innermost also
+    // what is being read.
+    private static final int STACK = 2 * (MOST_NESTED + 1) + 1;
 
     private static final int HERE = 0;
     private static final int NEXT = 1;

@@ -15,7 +15,7 @@ public final class AgainstModel {
   private static int wrong = 0;
   private static long calls = 0;
   // What the runs have met, so that runs that meet too little are found.
-  private static final int[] faultsMet = new int[7], verdictsMet = new int[5], dutiesMet = new int[3], longMet = new int[41];
+  private static final int[] faultsMet = new int[7], verdictsMet = new int[5], dutiesMet = new int[3], longMet = new int[41], ticksMet = new int[49];
 
   // ---------------------------------------------------------------- the text
 
@@ -799,9 +799,16 @@ public final class AgainstModel {
     String text = texts.make(1 + r.nextInt(3));
     if (text.length() > 200) text = text.substring(0, 200);
     tell(x, m, text, run);
+    // Some runs begin with so many ticks that they come up to the most that there may be.
+    int many = r.nextInt(6) == 0 ? 38 + r.nextInt(11) : 0;
+    for (int i = 0; i < many; i++) {
+      int bits = r.nextInt(1 << texts.wires);
+      due(run, "tick(" + bits + ")", x.tick(bits), m.tick(bits));
+    }
     int n = 20 + r.nextInt(120);
     for (int i = 0; i < n; i++) oneCall(x, m, r, texts.wires, run);
     askAll(x, m, run);
+    ticksMet[m.trace.size()]++;
     if (r.nextInt(2) == 0) {
       String second = texts.spoil(texts.make(1));
       tell(x, m, second.length() > 200 ? second.substring(0, 200) : second, run);
@@ -840,6 +847,7 @@ public final class AgainstModel {
     seen("verdicts", verdictsMet, 0, 50);
     seen("duties", dutiesMet, 0, 50);
     seen("long", longMet, 1, 5);
+    seen("ticks", ticksMet, 0, 5);
     if (wrong != 0) System.exit(1);
   }
 }
