@@ -343,6 +343,19 @@ public final class Boundaries {
     due("10 three times, one a TICK of b: a, b", x.matches(1, 1, 0, 2), 1);
     due("10 three times none", x.matches(1, 1, 2, 2), 1);
     due("10 three times none, c twice", x.matches(1, 1, 2, 3), 0);
+    // By 1 to 1 is what it is, however wide.
+    for (int wide = 2; wide <= 40; wide++) {
+      String part = "a/" + times("b,", wide - 2) + "b";
+      PromiseTries w = told("{" + part + "}*1 1=" + part + ";", all(48, 2));
+      for (int t = 0; t < 48; t++) {
+        w.put(t, 1);
+        for (int side = 0; side < 2; side++) {
+          due("10 wide, a behind b, " + t, w.matches(0, side, 0, t), t == 0 ? 1 : 0);
+          due("10 wide, b alone, " + t, w.matches(0, side, 0, t - 1), t == wide - 1 ? 1 : 0);
+        }
+        w.put(t, 2);
+      }
+    }
     // A repeat of at least m must not end with fewer, though its last part may be none.
     PromiseTries y = told("{a,b*0 1}*2 2=c;", 1, 2, 1, 2, 1);
     int[][] yes = {{0, 2}, {0, 3}, {2, 4}};
@@ -600,6 +613,14 @@ public final class Boundaries {
     due("8 b, d", y.fulfils(0, 2, 0, 2 + 8), 0);
     due("8 d, e", y.fulfils(0, 2, 0, 8 + 16), 0);
     due("9 of all", y.fulfilled(0, 2, 0), 168);
+    PromiseTries not = told("a=b~" + times("!a|b&!(", 8) + "!c|!d&!e" + times(")", 8) + ";");
+    due("8 NOT in the deepest, a is not there", not.fulfils(0, 2, 0, 0), 1);
+    due("8 NOT in the deepest, a alone", not.fulfils(0, 2, 0, 1), 0);
+    // With a and b each level is NOT the next one: by eight of them it is as the innermost.
+    due("8 NOT in the deepest, a and b", not.fulfils(0, 2, 0, 3), 1);
+    due("8 NOT in the deepest, a, b, c", not.fulfils(0, 2, 0, 7), 1);
+    due("8 NOT in the deepest, a, b, c, d", not.fulfils(0, 2, 0, 15), 0);
+    due("9 NOT in the deepest, of all", not.fulfilled(0, 2, 0), 128 + 40);
     PromiseTries z = told("a/b,(" + times("a|b&(", 7) + "c|d&e" + times(")", 8) + "=a;");
     due("9 in a CONDITION", z.fulfilled(0, 0, 2), 168);
     // Deep texts that were refused leave nothing behind that takes the room of the next one.
