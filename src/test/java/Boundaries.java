@@ -152,6 +152,7 @@ public final class Boundaries {
       int got = call.on(x);
       if (want == FULL && kind != 1) continue;
       if (want == STATE && kind == 0) continue;
+      if ((want == -13 || want == NONE) && kind == 2) continue;
       due("refused " + name + ", object " + kind, got, want);
       imagesAsThey(name, kind, x, y);
       List<Integer> one = allOf(x), other = allOf(y);
@@ -221,6 +222,21 @@ public final class Boundaries {
     for (int n : new int[] {41, HIGH}) refused("sheet(0, 1, " + n + ")", BAD, x -> x.sheet(0, 1, n));
     for (int n : new int[] {-1, LOW}) refused("sheet(0, 1, " + n + ")", -14, x -> x.sheet(0, 1, n));
     for (int i : new int[] {-1, 0, 40, LOW, HIGH}) refused("lay(3, " + i + ")", -11, x -> x.lay(3, i, 1));
+    for (int i : new int[] {-1, 40, LOW, HIGH}) refused("lay(0, " + i + ")", -13, x -> x.lay(0, i, 1));
+    for (int side : new int[] {-1, 3, LOW, HIGH}) {
+      refused("fulfils(0, " + side + ")", BAD, x -> x.fulfils(0, side, 0, 0));
+      refused("fulfilled(0, " + side + ")", BAD, x -> x.fulfilled(0, side, 0));
+      refused("matches(0, " + side + ")", BAD, x -> x.matches(0, side, 0, -1));
+      refused("might(0, " + side + ")", BAD, x -> x.might(0, side, 0));
+    }
+    refused("fulfils without OFF", BAD, x -> x.fulfils(1, 2, 0, 0));
+    refused("fulfilled without OFF", BAD, x -> x.fulfilled(1, 2, 0));
+    for (int v : new int[] {-1, 5, LOW, HIGH}) {
+      refused("tries(0, " + v + ")", BAD, x -> x.tries(0, v));
+      refused("first(0, " + v + ")", BAD, x -> x.first(0, v));
+    }
+    refused("duty(0, 0, 40, 0)", NONE, x -> x.duty(0, 0, 40, 0));
+    refused("first(1, 4)", NONE, x -> x.first(1, 4));
     for (int n : new int[] {-1, 21, LOW, HIGH}) refused("run(0, 0, 0, " + n + ")", BAD, x -> x.run(0, 0, 0, n));
     for (int w : new int[] {-1, 3, LOW, HIGH}) refused("count(" + w + ")", BAD, x -> x.count(w));
   }
