@@ -90,6 +90,20 @@ public final class FaceAndLanguage {
     for (int i = 0; i < source.length(); i++)
       check(source.charAt(i) == '\n' || source.charAt(i) >= 32 && source.charAt(i) < 127, "a sign that is not plain at " + i);
     methodsAreShort(source);
+    libraryIsListed(source);
+  }
+
+  // Rule 4: of the library only what stands there; names within the class are its own classes'.
+  private static void libraryIsListed(String source) {
+    Set<String> own = new TreeSet<>(), listed = Set.of("Math.max", "Math.min", "Long.bitCount", "System.arraycopy");
+    for (Class<?> c : PromiseTries.class.getDeclaredClasses()) own.add(c.getSimpleName());
+    Matcher used = Pattern.compile("\\b([A-Z][a-z]\\w*)\\.(\\w+)").matcher(source);
+    while (used.find())
+      check(own.contains(used.group(1)) || listed.contains(used.group()), "not of the listed library: " + used.group());
+    Matcher made = Pattern.compile("\\bnew (\\w+)").matcher(source);
+    while (made.find())
+      check(own.contains(made.group(1)) || Set.of("int", "long", "byte", "boolean").contains(made.group(1)),
+          "not of the listed types: " + made.group());
   }
 
   private static void methodsAreShort(String source) {
