@@ -95,15 +95,29 @@ public final class FaceAndLanguage {
 
   // Rule 4: of the library only what stands there; names within the class are its own classes'.
   private static void libraryIsListed(String source) {
-    Set<String> own = new TreeSet<>(), listed = Set.of("Math.max", "Math.min", "Long.bitCount", "System.arraycopy");
+    Set<String> own = new TreeSet<>(), listed = Set.of("System.arraycopy", "Arrays.copyOf", "Arrays.copyOfRange", "Arrays.fill");
     for (Class<?> c : PromiseTries.class.getDeclaredClasses()) own.add(c.getSimpleName());
     Matcher used = Pattern.compile("\\b([A-Z][a-z]\\w*)\\.(\\w+)").matcher(source);
     while (used.find())
-      check(own.contains(used.group(1)) || listed.contains(used.group()), "not of the listed library: " + used.group());
+      check(own.contains(used.group(1)) || listed.contains(used.group()) || isFunctionOfNumbers(used.group(1), used.group(2)),
+          "not of the listed library: " + used.group());
     Matcher made = Pattern.compile("\\bnew (\\w+)").matcher(source);
     while (made.find())
       check(own.contains(made.group(1)) || Set.of("int", "long", "byte", "boolean").contains(made.group(1)),
           "not of the listed types: " + made.group());
+  }
+
+  // "the static functions of Integer, Long and Math over int and long .. none of those whose name ends in Exact"
+  private static boolean isFunctionOfNumbers(String type, String name) {
+    if (name.endsWith("Exact")) return false;
+    Class<?> c = type.equals("Math") ? Math.class : type.equals("Long") ? Long.class : type.equals("Integer") ? Integer.class : null;
+    if (c == null) return false;
+    for (Method m : c.getMethods()) {
+      boolean numbers = m.getName().equals(name) && Modifier.isStatic(m.getModifiers());
+      for (Class<?> t : m.getParameterTypes()) numbers &= t == int.class || t == long.class;
+      if (numbers && (m.getReturnType() == int.class || m.getReturnType() == long.class)) return true;
+    }
+    return false;
   }
 
   private static void methodsAreShort(String source) {
